@@ -373,6 +373,12 @@ public final class PromiseTests {
     fault("boards 2 by 2", 0);
     fault("boardby 2 by 2", 0);
     fault("wall 3", 0);
+    fault("board 2 by 2;wallz 0", 13);
+    fault("board 2 by 2;a", 13);
+    fault("board 2 by 2{", 12);
+    fault("board 2 by 2;wall 0`", 19);
+    fault("board 2 by 2;wall :", 18);
+    fault("board 2 by 2;wall 0/", 19);
     fault(";board 2 by 2", 0);
     fault("board", 5);
     fault("board ", 6);
@@ -838,6 +844,22 @@ public final class PromiseTests {
     due("992 STATES", y.states(0, 0), 992);
     due("three CARRIES", y.fewest(0, 0), 3);
     due("BAD ahead of STUCK", x.fewest(0, 4), BAD);
+    due("10 times 10 times 10 STATES", rooms(10, 10, 10).states(0, 0), 1000);
+    due("are not SPENT", rooms(10, 10, 10).fewest(0, 0), 3);
+    due("7 times 11 times 13 are", rooms(7, 11, 13).fewest(0, 0), STUCK);
+  }
+
+  /** Three THINGS, each alone in a room of so many CELLS, each drawn elsewhere in it. */
+  static TheOtherRoom rooms(int... sizes) {
+    TheOtherRoom x = with("board 8 by 8;thing 1 by 1 at 0;thing 1 by 1 at 24;thing 1 by 1 at 48");
+    int[] starts = {0, 24, 48};
+    for (int c = 0; c < 64; c++) {
+      boolean floor = false;
+      for (int i = 0; i < 3; i++) floor |= c >= starts[i] && c < starts[i] + sizes[i];
+      if (!floor) x.wall(0, c, true);
+    }
+    for (int i = 0; i < 3; i++) x.draw(0, 0, i, 2 * starts[i] + 2);
+    return x;
   }
 
   /** Things in a row on a floor as narrow as they: each can go one CELL on, so layers are many. */
@@ -905,6 +927,11 @@ public final class PromiseTests {
     y.draw(0, 0, 1, NONE);
     y.draw(0, 0, 0, 200);
     due("the LANDING is told as 200", y.first(0, 0), 200);
+    // 0 first is a long way round for both: 1 first, as that takes fewer STEPS
+    TheOtherRoom z = with("board 4 by 3;thing 1 by 1 at 0;thing 1 by 1 at 1;wall 5");
+    z.draw(0, 0, 0, 4);
+    z.draw(0, 0, 1, 12);
+    due("fewer STEPS ahead of the least THING", z.first(0, 0), 1012);
   }
 
   static void p38() {
@@ -1159,6 +1186,13 @@ public final class PromiseTests {
     due("layer 1", z.step(), 348);
     due("SPENT", z.step(), 1001);
     due("STUCK", z.step(), STUCK);
+    TheOtherRoom v = with("board 4 by 2;thing 1 by 1 at 0");
+    v.draw(0, 0, 0, 14);
+    v.begin(0, 0);
+    v.wall(0, 1, true);
+    v.wall(0, 5, true);
+    due("a CARRY is what it is at that time", v.step(), 1);
+    due("it goes on", v.search(4), 0);
     TheOtherRoom w = with(ONE_FREE);
     w.draw(0, 0, 0, 2);
     w.draw(0, 0, 1, 0);
