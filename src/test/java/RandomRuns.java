@@ -17,7 +17,7 @@ import java.util.regex.Pattern;
  */
 public final class RandomRuns {
   static final int BAD = -2, OTHER = -3, NOTHING = -4, STUCK = -5, FULL = -6;
-  static final int RUNS = 1500;
+  static final int RUNS = 3000;
 
   static final class T implements Cloneable {
     int w, h, heavy = 1, told, stand;
