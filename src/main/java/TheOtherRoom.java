@@ -54,6 +54,8 @@ public final class TheOtherRoom {
     private final Walk walk = new Walk();
     private final Search asked = new Search();
     private final Search underWay = new Search();
+    /** The FLAT as it was at begin(): all layers of a SEARCH are of that one, whatever becomes of the FLAT. */
+    private final Flat begun = new Flat();
     private final int[] scratch = new int[THINGS];
     private final int[] refusals = new int[5];
     private int flatCount = 0;
@@ -592,18 +594,18 @@ public final class TheOtherRoom {
         if (f == null) {
             return refuse(BAD);
         }
-        underWay.open(f, drawing, NONE);
+        begun.become(f);
+        underWay.open(begun, drawing, NONE);
         underWay.flatNumber = flat;
         searching = true;
         return underWay.outcome == FOUND ? 1 : 0;
     }
 
     public int step() {
-        Flat f = searching ? flatFor(underWay.flatNumber) : null;
-        if (f == null || underWay.outcome != GOING) {
+        if (!searching || underWay.outcome != GOING) {
             return refuse(STUCK);
         }
-        return underWay.deepen(f);
+        return underWay.deepen(begun);
     }
 
     public int search(int what) {

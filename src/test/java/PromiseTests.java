@@ -1186,13 +1186,6 @@ public final class PromiseTests {
     due("layer 1", z.step(), 348);
     due("SPENT", z.step(), 1001);
     due("STUCK", z.step(), STUCK);
-    TheOtherRoom v = with("board 4 by 2;thing 1 by 1 at 0");
-    v.draw(0, 0, 0, 14);
-    v.begin(0, 0);
-    v.wall(0, 1, true);
-    v.wall(0, 5, true);
-    due("a CARRY is what it is at that time", v.step(), 1);
-    due("it goes on", v.search(4), 0);
     TheOtherRoom w = with(ONE_FREE);
     w.draw(0, 0, 0, 2);
     w.draw(0, 0, 1, 0);
@@ -1200,6 +1193,67 @@ public final class PromiseTests {
     int[] layers = {2, 3, 5, 6, 7, 10};
     for (int n : layers) due("layer", w.step(), n);
     due("behind layer 6", w.step(), STUCK);
+    staysAsBegun();
+  }
+
+  // 0 . . .
+  // # 1 . .   the door is 3, none may be on the LANDING
+  static TheOtherRoom begun() {
+    TheOtherRoom x = with("board 4 by 2;thing 1 by 1 at 0;thing 1 by 1 at 5 heavy 2;wall 4;landing 0 door 3");
+    x.draw(0, 0, 0, 14);
+    x.draw(0, 0, 1, 10);
+    x.begin(0, 0);
+    return x;
+  }
+
+  static void stays(TheOtherRoom x, String what) {
+    due("layer 1 " + what, x.step(), 10);
+    due("FOUND " + what, x.search(4) * 10 + x.search(5), 14);
+  }
+
+  /** Whatever becomes of the FLAT behind begin(), all layers are of the SEARCH that was begun. */
+  static void staysAsBegun() {
+    stays(begun(), "as nothing was done");
+    TheOtherRoom x = begun();
+    x.carry(0, 0, 4);
+    x.take(0, 0);
+    stays(x, "by the DRAWING that it was begun for: take()");
+    x = begun();
+    x.draw(0, 0, 0, 2);
+    x.draw(0, 0, 1, NONE);
+    stays(x, "by the DRAWING that it was begun for: draw()");
+    due("the DRAWING is another one", x.fewest(0, 0) * 10 + x.least(0, 0), 11);
+    x = begun();
+    x.wall(0, 4, false);
+    x.wall(0, 1, true);
+    x.wall(0, 6, true);
+    stays(x, "on the FLOOR that was: wall()");
+    x = begun();
+    x.alter(0, 0, 1);
+    stays(x, "by the hands that were: alter()");
+    x = begun();
+    x.alter(0, 1, 3);
+    x.alter(0, 2, 0);
+    stays(x, "by the LANDING that was: alter()");
+    x = begun();
+    x.put(0, 0, 14);
+    x.put(0, 1, 0);
+    stays(x, "from how all stood: put()");
+    x = begun();
+    flat(x, "board 2 by 2;thing 1 by 1 at 0");
+    x.draw(1, 0, 0, 2);
+    x.fewest(1, 0);
+    x.more(0, 0);
+    stays(x, "though others are asked for");
+    x = with(SWAP);
+    x.draw(0, 0, 0, 6);
+    x.begin(0, 0);
+    due("layer 1", x.step(), 10);
+    x.draw(0, 0, 0, 2);
+    x.carry(0, 1, 12);
+    due("layer 2", x.step() > 0 ? x.search(4) * 10 + x.search(5) : 0, 12);
+    due("begun anew it is the other one", x.begin(0, 0) * 10 + x.step(), 10);
+    due("begun anew it is the other one", x.search(4) * 10 + x.search(5), 11);
   }
 
   static void searched(TheOtherRoom x, int... want) {

@@ -389,6 +389,8 @@ public final class RandomRuns {
     S[] shelves = new S[8];
     String tape = "";
     Se search = null;
+    /** The FLAT as it was when the SEARCH was begun. */
+    F searched = null;
     long[] refusals = new long[5];
 
     Model() { for (int i = 0; i < 8; i++) shelves[i] = new S(); }
@@ -736,14 +738,15 @@ public final class RandomRuns {
 
     long begin(int flat, int d) {
       if (f(flat, d) == null) return no(BAD);
-      search = new Se(f(flat), d);
+      searched = f(flat).twin();
+      search = new Se(searched, d);
       search.flat = flat;
       return search.state == 1 ? 1 : 0;
     }
 
     long step() {
       if (search == null || search.state != 0) return no(STUCK);
-      return search.deepen(f(search.flat));
+      return search.deepen(searched);
     }
 
     long search(int what) {
@@ -983,13 +986,27 @@ public final class RandomRuns {
     if (!same("begin" + args(flat, d), x.begin(flat, d), m.begin(flat, d))) return false;
     for (int i = 0; i < 7; i++) {
       for (int k = 0; k < 6; k++) if (!same("search" + args(k), x.search(k), m.search(k))) return false;
-      int t = thing(flat), s = spot(flat, t);
-      if (chance(4) && !same("carry" + args(flat, t, s), x.carry(flat, t, s), m.carry(flat, t, s))) return false;
+      if (chance(2) && !meddle(flat, d)) return false;
       if (!same("step()", x.step(), m.step())) return false;
       if (m.search == null || m.search.state != 0) break;
     }
     for (int k = 0; k < 6; k++) if (!same("search" + args(k), x.search(k), m.search(k))) return false;
     return true;
+  }
+
+  /** A call that makes the FLAT another one while a SEARCH of it is under way. */
+  boolean meddle(int flat, int d) {
+    int t = thing(flat), s = spot(flat, t), c = some(16), k = some(3), v = k == 2 ? c : some(4);
+    boolean is = chance(2);
+    switch (n(7)) {
+      case 0: return same("carry" + args(flat, t, s), x.carry(flat, t, s), m.carry(flat, t, s));
+      case 1: return same("put" + args(flat, t, s), x.put(flat, t, s), m.put(flat, t, s));
+      case 2: return same("take" + args(flat, d), x.take(flat, d), m.take(flat, d));
+      case 3: return same("draw" + args(flat, d, t, s), x.draw(flat, d, t, s), m.draw(flat, d, t, s));
+      case 4: return same("wall" + args(flat, c, is), x.wall(flat, c, is), m.wall(flat, c, is));
+      case 5: return same("alter" + args(flat, k, v), x.alter(flat, k, v), m.alter(flat, k, v));
+      default: return searchCall(flat, d);
+    }
   }
 
   /** The dear calls; on large boards rarely. */
