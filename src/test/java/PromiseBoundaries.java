@@ -400,6 +400,12 @@ public final class PromiseBoundaries {
     Sentences.Maker faulty = () -> { TheOtherRoom x = room(); Sentences.feed(x, ";thing 1 by 1 at 12"); return x; };
     Sentences.Maker empty = () -> { TheOtherRoom x = room(); x.wipe(); return x; };
     Sentences.refusedAs(faulty, empty, BAD, -20 - 29, "only THE TAPE becomes empty", x -> x.flat());
+    TheOtherRoom after = new TheOtherRoom();
+    due("a FAULT at last", Sentences.flat(after, "board 3 by 3;hands 3;landing 3 door 4;thing 1 by 1 at 0;wall 1;x"), -20 - 63);
+    due("nothing of it is left", Sentences.flat(after, "board 2 by 2"), 0);
+    int[] told = {2, 2, 0, 2, 0, 0, 0, 0, 0};
+    for (int i = 0; i <= 8; i++) due("what " + i, after.flatOf(0, i), told[i]);
+    due("FLOOR", after.floor(0, 0), 15);
     sentence("FULL (ahead of all; THE TAPE stays).");
     Sentences.refused(PromiseBoundaries::full, FULL, "a fifth", x -> x.flat());
     Sentences.ahead(() -> { TheOtherRoom x = full(); x.feed('!', 1); return x; }, FULL, BAD, "a FAULT", x -> x.flat());
@@ -771,6 +777,12 @@ public final class PromiseBoundaries {
         for (int i = 0; i < told; i++) x.draw(0, 2, i, 200);
         due(told + " on a LANDING of " + landing, x.sound(0, 2), told <= landing ? 1 : 0);
       }
+    TheOtherRoom both = room();
+    both.alter(0, 1, 1);
+    for (int i = 0; i < 4; i++) both.draw(0, 2, i, i < 2 ? 200 : i == 2 ? 4 : 14);
+    due("two on a LANDING of 1, two at SPOTS", both.sound(0, 2), 0);
+    both.draw(0, 2, 1, 10);
+    due("one on a LANDING of 1, three at SPOTS", both.sound(0, 2), 1);
     TheOtherRoom x = room();
     x.draw(0, 2, 0, 20);
     due("on a wall", x.sound(0, 2), 0);
@@ -830,6 +842,13 @@ public final class PromiseBoundaries {
       // 1006 is another SPOT by then
       Sentences.quiet(rowed(1004, v, 1010), "the second: " + v, v == 1006 ? NONE : 1, x -> x.judge(0, 0, 3));
     }
+    Sentences.Maker two = () -> {
+      TheOtherRoom x = with("board 3 by 2;thing 1 by 1 at 1;thing 1 by 1 at 2");
+      Sentences.row(x, 0, 3, 1000, 4, 1002, 0, 1010);
+      return x;
+    };
+    Sentences.quiet(two, "1000: THING 1 to SPOT 0", NONE, x -> x.judge(0, 0, 5));
+    Sentences.quiet(two, "1000: THING 1 to SPOT 0", 4 + 1 + 1 + 4 + 2, x -> x.cost(0, 0, 5));
     sentence("BAD FLAT, SHELF, n; OTHER; NOTHING; BAD: fewer elements.");
     carriesRefused((x, f, s, n) -> x.judge(f, s, n));
     TheOtherRoom x = room();
@@ -1070,6 +1089,13 @@ public final class PromiseBoundaries {
     Sentences.quiet(PromiseBoundaries::spent, "FOUND without any", 2, x -> x.shelf(0, 1));
     Sentences.ahead(PromiseBoundaries::spent, BAD, STUCK, "DRAWING 4", x -> x.shelf(0, 4));
     quiet("all are the same", 0, x -> x.shelf(0, 1));
+    Sentences.quiet(() -> {
+      TheOtherRoom x = with("board 8 by 8;thing 1 by 1 at 0;thing 1 by 1 at 1");
+      x.draw(0, 0, 0, 126);
+      x.draw(0, 0, 1, 124);
+      due("SPENT with all", x.fewest(0, 0), STUCK);
+      return x;
+    }, "SPENT for none without one", 0, x -> x.shelf(0, 0));
     Sentences.quiet(() -> { TheOtherRoom x = with("board 2 by 2;thing 1 by 1 at 0"); x.draw(0, 0, 0, 6); return x; },
         "the only one", 0, x -> x.shelf(0, 0));
     for (int away = 0; away < 3; away++) {
@@ -1150,6 +1176,19 @@ public final class PromiseBoundaries {
       x.draw(0, 0, 1, 2);
       return x;
     }, "two CARRIES with and without", NONE, x -> x.more(0, 0));
+    // 0 1 .
+    // # . .
+    Sentences.Maker less = () -> {
+      TheOtherRoom x = with("board 3 by 2;wall 3;thing 1 by 1 at 0;thing 1 by 1 at 1");
+      x.draw(0, 0, 0, 4);
+      return x;
+    };
+    Sentences.quiet(less, "FEWEST is 2, and would be 1", 3, x -> x.more(0, 0));
+    Sentences.quiet(less, "FEWEST is 2", 2, x -> x.fewest(0, 0));
+    Sentences.quiet(() -> { TheOtherRoom x = less.make(); x.wall(0, 4, true); x.wall(0, 5, true); return x; },
+        "there is none, and would be by the second wall alone", 4, x -> x.more(0, 0));
+    Sentences.quiet(() -> { TheOtherRoom x = with("board 2 by 2;wall 0;thing 1 by 1 at 1"); x.draw(0, 0, 0, 0); return x; },
+        "the first CELL", 0, x -> x.more(0, 0));
     sentence("BAD; STUCK: SPENT now, or for one that is looked at (in order, till the first).");
     searchRefused((x, f, d) -> x.more(f, d));
     Sentences.refused(() -> shutIn(2, 0), STUCK, "SPENT without the first", x -> x.more(0, 0));
@@ -1173,6 +1212,13 @@ public final class PromiseBoundaries {
     due("corners don't hang together", x.parts(0), 32);
     for (int c = 0; c < 63; c++) x.wall(0, c, true);
     due("the last CELL", x.parts(0) + x.wall(0, 63, false), 2 - 1);
+    int[][] shapes = {{0, 3, 4, 5, 2}, {1, 4, 3}, {0, 1, 2, 5}, {2, 5, 4, 3}, {0, 3, 4, 1, 2, 5}};
+    for (int[] shape : shapes) {
+      TheOtherRoom y = with("board 3 by 2");
+      for (int c = 0; c < 6; c++) y.wall(0, c, true);
+      for (int c : shape) y.wall(0, c, false);
+      due("a part that goes up, down, left and right", y.parts(0), 1);
+    }
     for (int c = 0; c < 64; c++) x.wall(0, c, c != 7 && c != 8);
     due("a row's end and the next one's start don't", x.parts(0), 2);
   }
@@ -1252,6 +1298,19 @@ public final class PromiseBoundaries {
     due("none", begun(0, () -> shut(4, 0)).make().step(), 0);
     due("layer 6", GOES_ON.make().step(), 10);
     due("SPENT", begun(1, PromiseBoundaries::spent).make().step(), 1001);
+    String[][] kinds = {{" fixed", "", " heavy 3", " plain"}, {" plain", " turned plain", " turned", " turned plain"}};
+    int[][] layers = {{0, 4, 0, 2}, {3, 2, 5, 2}};
+    for (int l = 0; l < 2; l++) {
+      // one object has them all, and a SEARCH of each, one after the other
+      TheOtherRoom x = new TheOtherRoom();
+      for (int f = 0; f < 4; f++) {
+        Sentences.flat(x, "board 3 by 2;landing " + l + " door 0;wall 5;thing 2 by 1 at 0" + kinds[l][f]);
+        if (l == 1) x.put(f, 0, 200);
+        x.draw(f, 0, 0, 8);
+        x.begin(f, 0);
+        due("layer 1 of one" + kinds[l][f] + (l == 1 ? " on the LANDING" : ""), x.step(), layers[l][f]);
+      }
+    }
     sentence("STUCK: none is under way, it is FOUND, at its end, SPENT.");
     Sentences.refused(TheOtherRoom::new, STUCK, "none is under way", x -> x.step());
     Sentences.refused(GIVEN_UP, STUCK, "none is under way any more", x -> x.step());
@@ -1320,6 +1379,14 @@ public final class PromiseBoundaries {
     for (int i = 0; i < 4; i++) due("a FLAT", Sentences.flat(none, "board 2 by 2"), i);
     due("of none", none.back() * 10 + none.status(0), 10);
     due("its number is 0 again", Sentences.flat(none, "board 3 by 3") * 10 + none.flatOf(0, 0), 3);
+    due("its CARRIES are counted anew", none.flatOf(0, 6) + none.flatOf(0, 7), 0);
+    none.back();
+    Sentences.flat(none, "board 2 by 2;thing 1 by 1 at 0");
+    none.carry(0, 0, 6);
+    none.back();
+    Sentences.flat(none, "board 2 by 2;thing 1 by 1 at 3");
+    due("its CARRIES are counted anew", none.flatOf(0, 6) * 10 + none.flatOf(0, 7), 0);
+    due("it STANDS as it is told", none.thingOf(0, 0, 5), 6);
     TheOtherRoom four = with("board 2 by 2", "board 2 by 3", "board 2 by 4", "board 2 by 5;thing 1 by 1 at 0");
     due("of four", four.image(), 1);
     four.carry(3, 0, 18);

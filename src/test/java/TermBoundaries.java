@@ -75,6 +75,17 @@ public final class TermBoundaries {
       if (c == ' ' || c == '0') reads(inside);
       else fault(inside, word ? 13 : 17);
     }
+    String text = "board 2 by 3;wall 0;hands 1;landing 1 door 1;thing 1 by 1 at 1 heavy 1 fixed plain;thing 1 by 2 at 2 turned";
+    reads(text);
+    for (int i = 0, start = 0; i < text.length(); i++) {
+      char c = text.charAt(i);
+      boolean letter = c >= 'a' && c <= 'z';
+      if (letter && (i == 0 || !Character.isLetter(text.charAt(i - 1)))) start = i;
+      if (!letter) continue;
+      fault(text.substring(0, i) + 'q' + text.substring(i + 1), start);
+      fault(text.substring(0, i) + c + c + text.substring(i + 1), start);
+      fault(text.substring(0, i) + text.substring(i + 1), start);
+    }
     sentence("blanks (32) may stand anywhere between");
     reads("   board   2   by   2   ;   hands   1   ;   landing   0   door   3   ;   thing   1   by   1   at   0   ");
     reads("board2by2;hands1;landing0door3;thing1by1at0heavy1fixed");
@@ -455,6 +466,42 @@ public final class TermBoundaries {
     for (int c = 0; c < 9; c++) due("steps to " + c, y.steps(0, 0, 2 * c), steps[c]);
     due("OUT and IN may be fewer", reads("board 3 by 3;landing 1 door 2;wall 3;wall 4;thing 3 by 1 at 0").steps(0, 0, 5), 2);
     due("the longest way", snake().steps(0, 0, 112), 35);
+    longOnes();
+  }
+
+  /** CARRIES of those that are turned, plain, or longer than the board is wide. */
+  static void longOnes() {
+    // . . . D
+    // 0 . . .
+    // 0 . . .
+    TheOtherRoom x = reads("board 4 by 3;landing 1 door 3;thing 2 by 1 at 4 turned");
+    due("turned", x.steps(0, 0, 2 * 7 + 1), 3);
+    due("and round", x.steps(0, 0, 2 * 10), 4);
+    due("to the DOOR, turned, and OUT", x.steps(0, 0, 200), 5);
+    due("all SPOTS but its own, and the LANDING", x.reach(0, 0), 9 + 8 - 1 + 1);
+    due("it could cover all", x.ever(0, 0), 0xFFF);
+    String[] kinds = {"", " plain", " turned plain"};
+    int[][] steps = {{2, 3, 1, 2}, {2, 3, NONE, NONE}, {NONE, NONE, 1, 2}};
+    for (int k = 0; k < 3; k++) {
+      TheOtherRoom y = reads("board 4 by 3;landing 1 door 7;thing 2 by 1 at 0" + kinds[k]);
+      y.put(0, 0, 200);
+      due("IN and on" + kinds[k], y.steps(0, 0, 2 * 5), steps[k][0]);
+      due("IN and on" + kinds[k], y.steps(0, 0, 2 * 4), steps[k][1]);
+      due("IN, turned" + kinds[k], y.steps(0, 0, 2 * 7 + 1), steps[k][2]);
+      due("IN and on, turned" + kinds[k], y.steps(0, 0, 2 * 6 + 1), steps[k][3]);
+      due("all SPOTS, as it may" + kinds[k], y.reach(0, 0), k == 0 ? 17 : k == 1 ? 9 : 8);
+    }
+    TheOtherRoom plain = reads("board 4 by 3;thing 2 by 1 at 0 plain");
+    due("a plain one never turns", plain.steps(0, 0, 1), NONE);
+    due("a plain one never turns", plain.reach(0, 0), 8);
+    TheOtherRoom tall = reads("board 2 by 3;thing 1 by 3 at 0");
+    due("longer than the board is wide", tall.reach(0, 0), 1);
+    due("longer than the board is wide", can(tall, 2, 0, 0), 0);
+    TheOtherRoom wide = reads("board 3 by 2;thing 3 by 1 at 0");
+    due("longer than the board is high", wide.reach(0, 0), 1);
+    due("longer than the board is high", can(wide, 2, 0, 0), 0);
+    TheOtherRoom bend = reads("board 3 by 3;wall 4;wall 5;wall 7;wall 8;thing 2 by 1 at 0");
+    due("round a corner only turned", bend.ever(0, 0), 0x4F);
   }
 
   /** A way of 36 CELLS on a board of 64, from CELL 0 to CELL 56. */
@@ -539,6 +586,9 @@ public final class TermBoundaries {
     }
     due("1,000: FOUND", thousand.search(4) * 10000 + thousand.search(3), 11000);
     due("1,001: SPENT", more.search(4) * 10000 + more.search(3), 31001);
+    TheOtherRoom late = reads("board 4 by 3;thing 1 by 1 at 10;thing 1 by 1 at 6;thing 1 by 1 at 11");
+    for (int i = 0; i < 3; i++) late.draw(0, 0, i, new int[] {4, 6, 18}[i]);
+    due("1,000 by one STATE of the layer ahead, more by the next", late.fewest(0, 0), STUCK);
     sentence("else, if one of the layer is AS DRAWN, it is FOUND: FEWEST is k");
     due("in the layer by which it is SPENT", rooms(7, 11, 13).fewest(0, 0), STUCK);
     for (int i = 0; i < 3; i++) {
@@ -614,6 +664,12 @@ public final class TermBoundaries {
     due("200 alone", z.first(0, 0), 1200);
     z.alter(0, 1, 0);
     due("none", z.first(0, 0), NONE);
+    // 0 to 0 costs 2, to 1 costs 1, and in the end both cost the same: its first STATE is bettered in a layer
+    TheOtherRoom both = reads("board 3 by 2;thing 1 by 1 at 2;thing 1 by 1 at 3");
+    both.draw(0, 0, 0, 6);
+    both.draw(0, 0, 1, 4);
+    due("three CARRIES", both.fewest(0, 0) * 10 + both.least(0, 0), 36);
+    due("0 is the least of 0 and 2", both.first(0, 0), 0);
     TheOtherRoom w = reads("board 3 by 3;wall 0;wall 2;wall 6;wall 8;thing 1 by 1 at 4;thing 1 by 1 at 3");
     w.draw(0, 0, 1, 10);
     due("THING 0 is the one in the way", w.first(0, 0), 2);
