@@ -1219,6 +1219,8 @@ public final class PromiseBoundaries {
       for (int c : shape) y.wall(0, c, false);
       due("a part that goes up, down, left and right", y.parts(0), 1);
     }
+    for (int c = 0; c < 64; c++) x.wall(0, c, c > 7 && c % 8 != 7 && c != 60);
+    due("the first row and the last column, and a CELL apart from them", x.parts(0), 2);
     for (int c = 0; c < 64; c++) x.wall(0, c, c != 7 && c != 8);
     due("a row's end and the next one's start don't", x.parts(0), 2);
   }

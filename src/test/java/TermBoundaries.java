@@ -675,6 +675,44 @@ public final class TermBoundaries {
     due("THING 0 is the one in the way", w.first(0, 0), 2);
   }
 
+  static void waits() {
+    sentence("WAITS: a THING that isn't as drawn waits for those others (not drawn as they stand) that cover a CELL it is drawn to cover.");
+    // 0 0 1 2
+    // . . . 3
+    TheOtherRoom x = reads("board 4 by 2;landing 1 door 0;thing 2 by 1 at 0;thing 1 by 1 at 2;thing 1 by 1 at 3;thing 1 by 1 at 7");
+    x.draw(0, 0, 0, 4);
+    due("those that cover a CELL of it, nothing being told of them", x.waits(0, 0, 0), 6);
+    x.draw(0, 0, 1, 4);
+    due("not one drawn as it stands", x.waits(0, 0, 0), 4);
+    x.draw(0, 0, 0, 0);
+    due("as drawn it waits for none", x.waits(0, 0, 0), 0);
+    x.draw(0, 0, 0, 2);
+    due("not for itself", x.waits(0, 0, 0), 0);
+    x.draw(0, 0, 0, 200);
+    due("not for the LANDING", x.waits(0, 0, 0), 0);
+    due("nothing is told of it", x.waits(0, 0, 3), 0);
+    sentence("A RING: THINGS of which each waits in the end for itself.");
+    due("no RING", x.rings(0, 0), 0);
+    x.draw(0, 0, 0, 4);
+    x.draw(0, 0, 1, 6);
+    x.draw(0, 0, 2, 14);
+    due("a row is none", x.rings(0, 0), 0);
+    x.draw(0, 0, 3, 2);
+    due("a RING of all", x.rings(0, 0), 15);
+    x.draw(0, 0, 2, 4);
+    due("3 and 0 wait for a RING, and none for them", x.rings(0, 0), 6);
+    sentence("FLOOR that no fixed THING covers, CELLS that lie beside each other in a row or column hang together.");
+    TheOtherRoom y = reads("board 3 by 3;thing 3 by 1 at 3 fixed;thing 3 by 1 at 0;wall 7");
+    due("parted by a fixed one and a wall", y.parts(0), 3);
+    y.wall(0, 7, false);
+    due("beside each other in a row", y.parts(0), 2);
+    y.put(0, 1, 12);
+    due("one that isn't fixed parts nothing", y.parts(0), 2);
+    y.alter(0, 1, 1);
+    y.put(0, 0, 200);
+    due("nor does one on the LANDING", y.parts(0), 1);
+  }
+
   // ---- SHELVES and MOVES
 
   static void shelves() {
@@ -809,6 +847,23 @@ public final class TermBoundaries {
     Sentences.refused(Sentences::room, OTHER, "judge by a MOVE", x -> x.judge(0, 2, 0));
     Sentences.refused(Sentences::room, NOTHING, "says of NOTHING", x -> x.says(4, 0));
     Sentences.refused(Sentences::room, NOTHING, "judge by NOTHING", x -> x.judge(0, 4, 0));
+    sentence("-5 STUCK: it can't be as things stand; SPENT. -6 FULL.");
+    Sentences.refused(Sentences::room, STUCK, "put to another one's CELL", x -> x.put(0, 1, 0));
+    Sentences.refused(() -> rooms(7, 11, 13), STUCK, "1,001 STATES", x -> x.least(0, 0));
+    Sentences.quiet(() -> rooms(10, 10, 10), "1,000 STATES", 3, x -> x.least(0, 0));
+    Sentences.Maker tape = () -> { TheOtherRoom x = with("board 2 by 2"); Sentences.feed(x, padded("board 2 by 3", 198)); return x; };
+    Sentences.refused(tape, FULL, "201 bytes", x -> x.feed(-1, 3));
+    Sentences.Maker four = () -> with("board 2 by 2", "board 2 by 2", "board 2 by 2", "board 2 by 2");
+    Sentences.refused(four, FULL, "five FLATS", x -> x.flat());
+    sentence("the first that fits as each line has them)");
+    Sentences.ahead(Sentences::room, BAD, OTHER, "no KIND, a ROW", x -> x.says(0, 6));
+    Sentences.ahead(Sentences::room, BAD, NOTHING, "no FLAT, NOTHING", x -> x.can(2, 4));
+    Sentences.ahead(Sentences::room, OTHER, NOTHING, "a MOVE and NOTHING", x -> x.copy(2, 4, 0, 0, 0));
+    Sentences.ahead(Sentences::room, OTHER, BAD, "a MOVE has no element", x -> x.set(2, 40, 0));
+    Sentences.ahead(Sentences::room, NOTHING, BAD, "NOTHING has no element", x -> x.set(4, -1, 0));
+    Sentences.ahead(Sentences::room, BAD, STUCK, "no place, and it is fixed", x -> x.carry(0, 2, 24));
+    Sentences.ahead(tape, BAD, FULL, "five bytes", x -> x.feed(0, 5));
+    Sentences.ahead(four, FULL, BAD, "THE TAPE is no FLAT", x -> x.flat());
     Sentences.elsewhere("An object is used for at most 512 calls after it has been made");
     TheOtherRoom last = reads("board 8 by 8;thing 1 by 1 at 0");
     // 8 calls and a FLAT so far
@@ -837,6 +892,7 @@ public final class TermBoundaries {
     layers();
     sixLayers();
     first();
+    waits();
     shelves();
     moves();
     refusals();
