@@ -555,7 +555,7 @@ public final class PromiseBoundaries {
       for (int v = lowest[w]; v <= highest[w]; v++) {
         TheOtherRoom x = room();
         due("what it was", x.alter(0, w, v), was[w]);
-        due("as told", x.flatOf(0, 3 + w), v);
+        for (int k = 0; k < 3; k++) due("as told, and the others as they were", x.flatOf(0, 3 + k), k == w ? v : was[k]);
         due("what it was then", x.alter(0, w, was[w]), v);
       }
     }
@@ -835,12 +835,12 @@ public final class PromiseBoundaries {
     quiet("no THINGS", 0, x -> x.judge(1, 0, 3));
     quiet("none, of no THINGS", NONE, x -> x.judge(1, 0, 0));
     long[] not = {-1, -5, -1000, -998, 0, 1006, 6, 22, 24, 127, 128, 199, 201, 999, 1001, 1022, 2018, 2200, 3010, 3200,
-      4000, 4200, 5000, 6000, 10_000, 1L << 32, (1L << 32) + 2, 1000L << 32, Long.MAX_VALUE, Long.MIN_VALUE,
-      Long.MIN_VALUE + 1002, Integer.MAX_VALUE, Integer.MIN_VALUE};
+      4000, 4200, 5000, 6000, 10_000, 1L << 32, (1L << 32) + 1004, 1004 - (1L << 32), 1000L << 32, Long.MAX_VALUE,
+      Long.MIN_VALUE, Long.MIN_VALUE + 1004, Integer.MAX_VALUE, Integer.MIN_VALUE};
     for (long v : not) {
       Sentences.quiet(rowed(v), "the first: " + v, 0, x -> x.judge(0, 0, 1));
       // 1006 is another SPOT by then
-      Sentences.quiet(rowed(1004, v, 1010), "the second: " + v, v == 1006 ? NONE : 1, x -> x.judge(0, 0, 3));
+      Sentences.quiet(rowed(1010, v, 1004), "the second: " + v, v == 1006 ? NONE : 1, x -> x.judge(0, 0, 3));
     }
     Sentences.Maker two = () -> {
       TheOtherRoom x = with("board 3 by 2;thing 1 by 1 at 1;thing 1 by 1 at 2");

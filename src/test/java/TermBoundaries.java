@@ -460,6 +460,13 @@ public final class TermBoundaries {
     due("to the LANDING", x.carry(0, 0, 200), 2);
     due("from LANDING to LANDING is none", x.carry(0, 0, 200), STUCK);
     due("from the LANDING", x.carry(0, 0, 6), 3);
+    for (int h = 1; h <= 2; h++) {
+      TheOtherRoom far = reads("board 8 by 8;landing 1 door 0;thing 1 by " + h + " at 0");
+      far.put(0, 0, 200);
+      for (int c = 0; c < 64 - 8 * (h - 1); c++)
+        due("from the LANDING by the DOOR, to " + c, far.steps(0, 0, 2 * c), 1 + c % 8 + c / 8);
+      due("to all SPOTS", far.reach(0, 0), h == 1 ? 64 : 112);
+    }
     sentence("It costs the fewest STEPS.");
     TheOtherRoom y = reads("board 3 by 3;wall 4;thing 1 by 1 at 0");
     int[] steps = {0, 1, 2, 1, NONE, 3, 2, 3, 4};
